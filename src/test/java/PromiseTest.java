@@ -102,6 +102,10 @@ public final class PromiseTest {
         x.argument(1, MAX);
         due(1, "countWith(2, 0, 31) with other arguments", x.countWith(2, 0, 31), 32);
 
+        x.range(0, 31);
+        x.put(0, 3);
+        due(1, "hidden(1), the first draft behind 0 .. 31", x.hidden(1), 1);
+
         // Both arguments are 0 at first.
         for (int i = 0; i < 2; i++) {
             SyscallFilter y = new SyscallFilter();
@@ -156,6 +160,15 @@ public final class PromiseTest {
             x.argument(0, 8);
             due(3, "decide(0), the other met", x.decide(0), 0);
         }
+        // The conditions of the next rule play no part.
+        SyscallFilter z = new SyscallFilter();
+        z.put(0, 1);
+        z.put(1, 2);
+        z.condition(0, SyscallFilter.DIFFERENT, 0, 0);
+        z.condition(1, SyscallFilter.DIFFERENT, 0, 0);
+        z.put(1, 3);
+        due(3, "decide(0) before a rule never met", z.decide(0), 1);
+        due(3, "hidden(2) before a rule never met", z.hidden(2), 1);
         // The second condition on a slot takes the place of the first.
         SyscallFilter y = new SyscallFilter();
         y.condition(0, SyscallFilter.EQUAL, -1, 5);
