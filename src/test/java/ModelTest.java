@@ -281,7 +281,8 @@ public final class ModelTest {
         switch (kind) {
             case 0: {
                 int first = near(0, 31);
-                int last = pick(8) == 0 ? near(0, 31) : first + pick(Math.max(1, 32 - Math.max(0, Math.min(first, 31))));
+                int room = 32 - Math.max(0, Math.min(first, 31));
+                int last = pick(8) == 0 ? near(0, 31) : first + pick(room);
                 return same(run, call, text("range", first, last), x.range(first, last), m.range(first, last));
             }
             case 1: {
